@@ -137,7 +137,7 @@ public final class DeedsTest {
                 + "writer to 0 wants 1;writer to 0 wants 1;");
         long[] can = {1, 99, 10000, 10999, 11000, 13999, 20000, 20099, 20100, 20599};
         long[] cannot = {0, -1, 100, 9999, 14000, 19999, 20600, Long.MIN_VALUE, Long.MAX_VALUE,
-            (1L << 32) + 5, 10000 + (1L << 40)};
+            (1L << 32) + 5, 10000 + (1L << 40), 20000 + (1L << 32), 20000 - (1L << 32)};
         for (long v : can) {
             Texts.fill(x, 0, 3, v);
             Check.due("deed " + v, x.judge(0, 0), -1);

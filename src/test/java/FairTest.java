@@ -58,6 +58,9 @@ public final class FairTest {
         x.ticks(1);
         Check.due("none any more: the first", x.most(9, 0), 0);
         Check.due("none", x.most(9, 1), 0);
+        WriterPace y = Texts.told(HEAD + "writer to 0 wants 3;writer to 0 wants 1;writer to 0 wants 2;");
+        Check.due("who", y.most(1, 0), 0);
+        Check.due("the fewest is neither the first nor the last", y.most(1, 2), 1);
         Check.due("most(0, 3)", x.most(0, 3), -2);
         Check.due("most(1, -1)", x.most(1, -1), -2);
         Check.due("most(0, 0)", x.most(0, 0), -3);

@@ -186,6 +186,10 @@ public final class HostTextTest {
         Texts.faulty(law + "if 1=1 then ((((((1", 4, 88);
         // The next law begins anew.
         Texts.sound(law + "((((((1))))));speed:((((((1))))));", 3);
+        // So does the next text, wherever the one ahead of it was given up.
+        WriterPace x = new WriterPace();
+        Check.due("given up inside", Texts.tell(x, law + "((((((;"), -32);
+        Check.due("six once more", Texts.tell(x, law + "((((((1))))));"), 2);
     }
 
     private static void faultsStay() {

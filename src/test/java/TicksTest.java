@@ -9,11 +9,14 @@ public final class TicksTest {
         turns();
         oldOnes();
         heldBack();
+        lastStays();
+        manyWriters();
         rounds();
         shares();
         wantsLaws();
         speedLaws();
         laterLawsStrike();
+        lawsEndWithTheirHost();
         wrongInputs();
         Check.end();
     }
@@ -165,6 +168,44 @@ public final class TicksTest {
         Check.due("all", y.count(4), 5);
     }
 
+    private static void lastStays() {
+        WriterPace x = Texts.told("host limit 10 background 0 age 99 pause 50 window 99 chunk 9 queue 9;"
+                + "device speed 900;file on 0;writer to 0 wants 8;");
+        // 800 by 357.12: a pause of 2, so that LAST is 0.
+        x.ticks(1);
+        Check.due("no pause", x.writer(0, 2), 0);
+        WriterPace y = Texts.told("host limit 10 background 0 age 99 pause 50 window 99 chunk 9 queue 9;"
+                + "device speed 100;file on 0;writer to 0 wants 8;");
+        y.ticks(1);
+        Check.due("last", y.writer(0, 3), 5);
+        y.speed(0, 900);
+        y.wants(0, 5);
+        y.ticks(5);
+        Check.due("all is written", y.count(4), 0);
+        y.ticks(1);
+        Check.due("all is at free, not above", y.count(4), y.set(7));
+        Check.due("last is as it was", y.writer(0, 3), 5);
+        Check.due("no pause", y.writer(0, 2), 0);
+    }
+
+    private static void manyWriters() {
+        String head = "host limit 10 background 0 age 9 pause 50 window 5 chunk 1 queue 1;"
+                + "device speed 100;device speed 100;file on 0;file on 1;writer to 0 wants 8;";
+        WriterPace x = Texts.told(head + "writer to 1 wants 0;");
+        x.ticks(1);
+        // The share is 5 of 10: q is 0 with 8 on it, so the rate is 1.
+        Check.due("the longest", x.pause(0, 1), 50);
+        WriterPace y = Texts.told(head + "writer to 0 wants 0;");
+        WriterPace z = Texts.told("host limit 10 background 0 age 9 pause 50 window 5 chunk 1 queue 1;"
+                + "device speed 100;file on 0;file on 0;writer to 0 wants 8;writer to 1 wants 0;writer to 0 wants 0;");
+        y.ticks(1);
+        z.ticks(1);
+        Check.due("not more than the longest", y.pause(0, 1), 50);
+        // A third of 39.68 each.
+        Check.due("three share the device", z.pause(0, 1), 7);
+        Check.due("three share the device", z.pause(2, 2), 15);
+    }
+
     private static void rounds() {
         WriterPace x = Texts.told("host limit 5 background 0 age 99 pause 1 window 99 chunk 1 queue 1;"
                 + "device speed 0;file on 0;writer to 0 wants 2;writer to 0 wants 2;writer to 0 wants 2;");
@@ -265,6 +306,27 @@ public final class TicksTest {
         x.undo(2);
         x.ticks(1);
         Check.due("as told before", x.writer(0, 4), 10);
+    }
+
+    private static void lawsEndWithTheirHost() {
+        String head = "host limit 999 background 0 age 9 pause 9 window 99 chunk 99 queue 99;"
+                + "device speed 200;file on 0;writer to 0 wants 30;";
+        WriterPace x = Texts.told(head + "wants:told+1;speed:told+100;");
+        x.ticks(3);
+        Check.due("by laws", x.count(7) * 1000 + x.count(6), 3093);
+        x.image(0);
+        Texts.tell(x, head);
+        x.ticks(3);
+        Check.due("by what is told", x.count(7) * 1000 + x.count(6), 2090);
+        Texts.tell(x, head + "wants:told+2;speed:told*2;");
+        x.ticks(3);
+        Check.due("by other laws", x.count(7) * 1000 + x.count(6), 4096);
+        x.later(99, 0);
+        x.restore(0);
+        x.ticks(99);
+        WriterPace y = Texts.told(head + "wants:told+1;speed:told+100;");
+        y.ticks(102);
+        Check.due("by the laws of the image", Seen.all(x), Seen.all(y));
     }
 
     private static void wrongInputs() {
