@@ -56,10 +56,10 @@ public final class WriterPace {
 
     private final byte[] tape = new byte[TAPE];
     private int taped = 0;
-    private final Reader reader = new Reader();
+    private final Host spare = new Host();
+    private final Reader reader = new Reader(tape, spare);
 
     private final Host told = new Host();
-    private final Host spare = new Host();
     private final Clock clock = new Clock(told);
     private final State now = new State();
     private final State going = new State();
@@ -109,7 +109,7 @@ public final class WriterPace {
             return BAD_NUMBER;
         }
         taped = 0;
-        if (!reader.readText(tape, n, spare)) {
+        if (!reader.readText(n)) {
             return FAULTY - reader.fault;
         }
         told.copyFrom(spare);
@@ -888,20 +888,47 @@ public final class WriterPace {
         return what == 0 ? above / common : below / common;
     }
 
-    /** A sum as code in the order in which its parts are reckoned; empty: there is no law. */
-    private static final class Law {
+    /** Both laws as code, in the order in which their parts are reckoned; an empty one is none. */
+    private static final class Laws {
         final int[] code = new int[TAPE];
         int length = 0;
+        int wantsFrom = 0;
+        int wantsTo = 0;
+        int speedFrom = 0;
+        int speedTo = 0;
 
-        void copyFrom(Law other) {
+        void clear() {
+            length = 0;
+            wantsFrom = 0;
+            wantsTo = 0;
+            speedFrom = 0;
+            speedTo = 0;
+        }
+
+        void copyFrom(Laws other) {
+            System.arraycopy(other.code, 0, code, 0, TAPE);
             length = other.length;
-            System.arraycopy(other.code, 0, code, 0, length);
+            wantsFrom = other.wantsFrom;
+            wantsTo = other.wantsTo;
+            speedFrom = other.speedFrom;
+            speedTo = other.speedTo;
         }
 
         void append(int item) {
             if (length < code.length) {
                 code[length] = item;
                 length++;
+            }
+        }
+
+        /** What was appended from a place on is a law, in place of one that was told earlier. */
+        void enact(boolean ofWants, int from) {
+            if (ofWants) {
+                wantsFrom = from;
+                wantsTo = length;
+            } else {
+                speedFrom = from;
+                speedTo = length;
             }
         }
     }
@@ -925,8 +952,7 @@ public final class WriterPace {
         final int[] fileOfWriter = new int[WRITERS];
         final int[] deviceOfWriter = new int[WRITERS];
         final int[] wanted = new int[WRITERS];
-        final Law wantsLaw = new Law();
-        final Law speedLaw = new Law();
+        final Laws laws = new Laws();
 
         void clear() {
             devices = 0;
@@ -934,8 +960,7 @@ public final class WriterPace {
             writers = 0;
             lines = 0;
             Arrays.fill(writersOn, 0);
-            wantsLaw.length = 0;
-            speedLaw.length = 0;
+            laws.clear();
         }
 
         void copyFrom(Host other) {
@@ -956,8 +981,7 @@ public final class WriterPace {
             System.arraycopy(other.fileOfWriter, 0, fileOfWriter, 0, WRITERS);
             System.arraycopy(other.deviceOfWriter, 0, deviceOfWriter, 0, WRITERS);
             System.arraycopy(other.wanted, 0, wanted, 0, WRITERS);
-            wantsLaw.copyFrom(other.wantsLaw);
-            speedLaw.copyFrom(other.speedLaw);
+            laws.copyFrom(other.laws);
         }
 
         void addDevice(int speed) {
@@ -997,7 +1021,8 @@ public final class WriterPace {
 
         int fault = 0;
         int place = NONE;
-        private byte[] text = new byte[0];
+        private final byte[] text;
+        private final Host into;
         private int length = 0;
         private int kind = END;
         private int start = 0;
@@ -1006,26 +1031,29 @@ public final class WriterPace {
         private int taken = 0;
         private int depth = 0;
         private boolean inWants = false;
-        private Law law = new Law();
 
-        boolean readText(byte[] bytes, int n, Host into) {
-            text = bytes;
-            length = Math.min(n, bytes.length);
+        Reader(byte[] text, Host into) {
+            this.text = text;
+            this.into = into;
+        }
+
+        boolean readText(int n) {
+            length = Math.min(n, text.length);
             fault = 0;
             place = NONE;
             stop = 0;
             depth = 0;
             into.clear();
             advance();
-            boolean sound = readHead(into);
+            boolean sound = readHead();
             // A line takes two bytes at the least, so this bound is never what ends it.
             for (int i = 0; i < TAPE && sound && kind != END; i++) {
-                sound = readLine(into);
+                sound = readLine();
             }
             return sound;
         }
 
-        private boolean readHead(Host into) {
+        private boolean readHead() {
             if (!takeWord("host") || !takeWord("limit") || !takeNumber(1, MAX_N)) {
                 return false;
             }
@@ -1058,18 +1086,18 @@ public final class WriterPace {
             return takeSign(';');
         }
 
-        private boolean readLine(Host into) {
+        private boolean readLine() {
             boolean sound;
             if (isWord("device")) {
-                sound = readDevice(into);
+                sound = readDevice();
             } else if (isWord("file")) {
-                sound = readFile(into);
+                sound = readFile();
             } else if (isWord("writer")) {
-                sound = readWriter(into);
+                sound = readWriter();
             } else if (isWord("wants")) {
-                sound = readLaw(into.wantsLaw, true);
+                sound = readLaw(true);
             } else if (isWord("speed")) {
-                sound = readLaw(into.speedLaw, false);
+                sound = readLaw(false);
             } else {
                 sound = refuse(2);
             }
@@ -1077,7 +1105,7 @@ public final class WriterPace {
             return sound && takeSign(';');
         }
 
-        private boolean readDevice(Host into) {
+        private boolean readDevice() {
             if (into.devices >= DEVICES) {
                 return refuse(4);
             }
@@ -1089,7 +1117,7 @@ public final class WriterPace {
             return true;
         }
 
-        private boolean readFile(Host into) {
+        private boolean readFile() {
             if (into.files >= FILES) {
                 return refuse(4);
             }
@@ -1101,7 +1129,7 @@ public final class WriterPace {
             return true;
         }
 
-        private boolean readWriter(Host into) {
+        private boolean readWriter() {
             if (into.writers >= WRITERS) {
                 return refuse(4);
             }
@@ -1117,12 +1145,15 @@ public final class WriterPace {
             return true;
         }
 
-        private boolean readLaw(Law into, boolean ofWants) {
-            advance();
-            law = into;
-            law.length = 0;
+        private boolean readLaw(boolean ofWants) {
+            int from = into.laws.length;
             inWants = ofWants;
-            return takeSign(':') && readSum();
+            advance();
+            if (!takeSign(':') || !readSum()) {
+                return false;
+            }
+            into.laws.enact(ofWants, from);
+            return true;
         }
 
         private boolean readSum() {
@@ -1131,7 +1162,7 @@ public final class WriterPace {
                 int item = isSign('+') ? PLUS : MINUS;
                 advance();
                 sound = readTerm();
-                law.append(item);
+                into.laws.append(item);
             }
             return sound;
         }
@@ -1141,7 +1172,7 @@ public final class WriterPace {
             for (int i = 0; i < TAPE && sound && isSign('*'); i++) {
                 advance();
                 sound = readAtom();
-                law.append(BY);
+                into.laws.append(BY);
             }
             return sound;
         }
@@ -1161,7 +1192,7 @@ public final class WriterPace {
             if (item == NONE) {
                 return refuse(2);
             }
-            law.append(item);
+            into.laws.append(item);
             advance();
             return true;
         }
@@ -1190,7 +1221,7 @@ public final class WriterPace {
                 return false;
             }
             depth--;
-            law.append(CHOOSE);
+            into.laws.append(CHOOSE);
             return true;
         }
 
@@ -1199,7 +1230,7 @@ public final class WriterPace {
             for (int i = 0; i < TAPE && sound && isWord("or"); i++) {
                 advance();
                 sound = readBoth();
-                law.append(OR);
+                into.laws.append(OR);
             }
             return sound;
         }
@@ -1209,7 +1240,7 @@ public final class WriterPace {
             for (int i = 0; i < TAPE && sound && isWord("and"); i++) {
                 advance();
                 sound = readUnit();
-                law.append(AND);
+                into.laws.append(AND);
             }
             return sound;
         }
@@ -1220,7 +1251,7 @@ public final class WriterPace {
                     return false;
                 }
                 depth--;
-                law.append(NOT);
+                into.laws.append(NOT);
                 return true;
             }
             if (isSign('[')) {
@@ -1243,7 +1274,7 @@ public final class WriterPace {
             }
             advance();
             boolean sound = readSum();
-            law.append(item);
+            into.laws.append(item);
             return sound;
         }
 
@@ -1499,12 +1530,15 @@ public final class WriterPace {
         }
 
         int wantedBy(State s, int w) {
-            if (host.wantsLaw.length == 0) {
-                return s.wanted[w];
+            int told = s.wanted[w];
+            Laws laws = host.laws;
+            if (laws.wantsFrom == laws.wantsTo) {
+                return told;
             }
-            int cell = cellOf(w, s.wanted[w], s.tick);
+            int cell = cellOf(w, told, s.tick);
             if (answers[cell] == UNKNOWN) {
-                int sum = reckon(host.wantsLaw, s.tick, s.wanted[w], host.deviceOfWriter[w], w);
+                int d = host.deviceOfWriter[w];
+                int sum = reckon(laws.wantsFrom, laws.wantsTo, s.tick, told, d, w);
                 answers[cell] = Math.max(0, Math.min(MAX_WANTS, sum));
             }
             return answers[cell];
@@ -1512,12 +1546,13 @@ public final class WriterPace {
 
         int speedOf(State s, int d) {
             int told = s.drives.speed[d];
-            if (host.speedLaw.length == 0 || s.lawless == d) {
+            Laws laws = host.laws;
+            if (laws.speedFrom == laws.speedTo || s.lawless == d) {
                 return told;
             }
             int cell = cellOf(WRITERS + d, told, s.tick);
             if (answers[cell] == UNKNOWN) {
-                int sum = reckon(host.speedLaw, s.tick, told, d, 0);
+                int sum = reckon(laws.speedFrom, laws.speedTo, s.tick, told, d, 0);
                 answers[cell] = Math.max(0, Math.min(MAX_N, sum));
             }
             return answers[cell];
@@ -1527,15 +1562,18 @@ public final class WriterPace {
         private int cellOf(int row, int told, int tick) {
             if (toldThen[row] != told) {
                 toldThen[row] = told;
-                Arrays.fill(answers, row * TIMES, row * TIMES + TIMES, UNKNOWN);
+                for (int time = 0; time < TIMES; time++) {
+                    answers[row * TIMES + time] = UNKNOWN;
+                }
             }
             return row * TIMES + tick % TIMES;
         }
 
-        private int reckon(Law law, int tick, int told, int device, int writer) {
+        private int reckon(int from, int to, int tick, int told, int device, int writer) {
+            int[] code = host.laws.code;
             int top = 0;
-            for (int i = 0; i < law.length; i++) {
-                int item = law.code[i];
+            for (int i = from; i < to && i < code.length; i++) {
+                int item = code[i];
                 if (item == CHOOSE && top >= 3) {
                     top -= 2;
                     stack[top - 1] = stack[top - 1] != 0 ? stack[top] : stack[top + 1];

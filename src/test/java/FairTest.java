@@ -98,6 +98,11 @@ public final class FairTest {
         Check.due("none", y.enough(99), -1);
         y.ticks(1);
         Check.due("what is there counts", y.enough(1), 198);
+        // A longest pause of 1 never makes LAST 1: 27 times 37 pages, one behind the other.
+        y.undo(1);
+        y.wants(0, 37);
+        Check.due("the greatest limit", y.enough(27), 999);
+        Check.due("beyond it", y.enough(28), -1);
         WriterPace z = Texts.told("host limit 20 background 18 age 1 pause 1 window 9 chunk 9 queue 9;"
                 + "device speed 0;file on 0;writer to 0 wants 3;");
         Check.due("the least is above background", z.enough(1), 19);
@@ -116,6 +121,12 @@ public final class FairTest {
         WriterPace most = Texts.told("host limit 999 background 0 age 99 pause 9 window 9 chunk 9 queue 9;"
                 + "device speed 0;file on 0;writer to 0 wants 0;");
         Check.due("the greatest there is", most.bears(0, 4), 99);
+        WriterPace slow = Texts.told("host limit 10 background 0 age 99 pause 1 window 9 chunk 9 queue 9;"
+                + "device speed 0;file on 0;writer to 0 wants 5;");
+        Check.due("one tick", slow.bears(0, 1), 10);
+        Check.due("two ticks", slow.bears(0, 2), 5);
+        Check.due("three ticks", slow.bears(0, 3), 3);
+        Check.due("99 ticks", slow.bears(0, 99), 0);
         Check.due("bears(2, 0)", x.bears(2, 0), -2);
         Check.due("bears(-1, 1)", x.bears(-1, 1), -2);
         Check.due("bears(0, 0)", x.bears(0, 0), -3);

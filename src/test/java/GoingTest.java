@@ -93,6 +93,7 @@ public final class GoingTest {
         Check.due("behind 990", x.drains(), 990);
         x.speed(0, 9);
         Check.due("not behind 999", x.drains(), -1);
+        edgeOfDrains();
         // Writers who would write do not.
         WriterPace y = Texts.told(PLAIN);
         y.ticks(7);
@@ -102,6 +103,20 @@ public final class GoingTest {
                 + "device speed 100;file on 0;writer to 0 wants 1;");
         z.ticks(1);
         Check.due("drains", z.drains(), 10);
+    }
+
+    /** Ten pages in flight at tick 2, a page in a hundred ticks: the tenth behind tick 1002. */
+    private static void edgeOfDrains() {
+        WriterPace x = Texts.told("host limit 999 background 0 age 99 pause 9 window 50 chunk 99 queue 99;"
+                + "device speed 1;file on 0;writer to 0 wants 10;");
+        x.ticks(1);
+        x.wants(0, 0);
+        x.ticks(1);
+        Check.due("behind 1000", x.drains(), -1);
+        Check.due("behind 1000", x.written(0, 10), -1);
+        x.ticks(1);
+        Check.due("behind 999", x.drains(), 999);
+        Check.due("behind 999", x.written(0, 10), 999);
     }
 
     private static void written() {
@@ -125,6 +140,7 @@ public final class GoingTest {
         WriterPace x = Texts.told("host limit 100 background 3 age 99 pause 9 window 9 chunk 9 queue 9;"
                 + "device speed 0;device speed 0;file on 0;writer to 0 wants 1;");
         // Ticks 1 to 4: above background only when tick 5 begins.
+        Check.due("starved(0, 1)", x.starved(0, 1), 1);
         Check.due("starved(0, 3)", x.starved(0, 3), 3);
         Check.due("starved(0, 99)", x.starved(0, 99), 4);
         Check.due("no dirty pages", x.starved(1, 99), 0);

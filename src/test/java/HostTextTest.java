@@ -56,6 +56,12 @@ public final class HostTextTest {
         Check.due("lines", x.count(10), 7);
         Check.due("speed told", x.device(0, 0), 999);
         Check.due("estimate", x.device(0, 4), 999000);
+        for (int what : new int[] {1, 2, 3, 5, 7, 8}) {
+            Check.due("at first", x.device(0, what), 0);
+        }
+        for (int what = 2; what <= 5; what++) {
+            Check.due("at first", x.writer(0, what), 0);
+        }
         Check.due("device of a file", x.file(2, 0), 1);
         Check.due("file of a writer", x.writer(0, 0), 2);
         Check.due("a device too many", x.device(2, 0), -2);
@@ -80,6 +86,10 @@ public final class HostTextTest {
         Texts.faulty(H + ";", 2, 65);
         Texts.faulty(H + "5;", 2, 65);
         Texts.faulty(H + "unknown;", 2, 65);
+        Texts.faulty(H + "az;", 2, 65);
+        Texts.faulty(H + "`;", 1, 65);
+        Texts.faulty(H + "{;", 1, 65);
+        Texts.faulty(H + "/;", 1, 65);
     }
 
     private static void heads() {

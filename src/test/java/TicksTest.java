@@ -16,6 +16,7 @@ public final class TicksTest {
         wantsLaws();
         speedLaws();
         laterLawsStrike();
+        lawsOfAll();
         lawsEndWithTheirHost();
         wrongInputs();
         Check.end();
@@ -91,6 +92,8 @@ public final class TicksTest {
         Check.due("dirty", x.file(0, 1) * 100 + x.file(2, 1) * 10 + x.file(3, 1), 725);
         x.ticks(1);
         Check.due("on and on", x.next(0), 3);
+        x.undo(1);
+        Check.due("turns are undone", x.next(0), 2);
         WriterPace y = Texts.told("host limit 100 background 5 age 99 pause 9 window 10 chunk 1 queue 3;"
                 + "device speed 100;file on 0;writer to 0 wants 5;");
         y.ticks(1);
@@ -146,7 +149,10 @@ public final class TicksTest {
         Check.due("pause(0, 8)", x.pause(0, 8), 20);
         Check.due("pause(0, 1)", x.pause(0, 1), 2);
         Check.due("the longest", x.pause(0, 99), 50);
-        x.ticks(2);
+        x.ticks(1);
+        Check.due("in flight", x.device(0, 1), 1);
+        Check.due("what is in flight is on it too", x.pause(0, 8), 20);
+        x.ticks(1);
         Check.due("pause", x.writer(0, 2), 3);
         Check.due("last stays", x.writer(0, 3), 5);
         x.ticks(3);
@@ -184,6 +190,7 @@ public final class TicksTest {
         Check.due("all is written", y.count(4), 0);
         y.ticks(1);
         Check.due("all is at free, not above", y.count(4), y.set(7));
+        Check.due("pause(0, 5) at free", y.pause(0, 5), 0);
         Check.due("last is as it was", y.writer(0, 3), 5);
         Check.due("no pause", y.writer(0, 2), 0);
     }
@@ -306,6 +313,26 @@ public final class TicksTest {
         x.undo(2);
         x.ticks(1);
         Check.due("as told before", x.writer(0, 4), 10);
+    }
+
+    private static void lawsOfAll() {
+        StringBuilder text = new StringBuilder("host limit 999 background 0 age 9 pause 9 window 99 chunk 99 queue 99;");
+        for (int d = 0; d < 4; d++) {
+            text.append("device speed ").append(d).append(";file on ").append(d).append(";");
+        }
+        for (int w = 0; w < 6; w++) {
+            text.append("writer to ").append(w % 4).append(" wants ").append(w % 4).append(";");
+        }
+        WriterPace x = Texts.told(text + "wants:writer*10+told+device+1;speed:device*10+told+3;");
+        for (int n = 1; n <= 3; n++) {
+            x.ticks(1);
+            for (int w = 0; w < 6; w++) {
+                Check.due("writer " + w, x.writer(w, 4), n * (w * 10 + w % 4 * 2 + 1));
+            }
+        }
+        for (int d = 0; d < 4; d++) {
+            Check.due("credit of " + d, x.device(d, 3), d * 11 + 3);
+        }
     }
 
     private static void lawsEndWithTheirHost() {

@@ -75,17 +75,17 @@ public final class WroteAndStallsTest {
         x.ticks(7);
         x.numbers(0, 2, 6);
         Check.due("lists", x.lists(0, 0), 6);
-        int all = x.later(30, 0);
+        int wrote = x.later(30, 3) * 1000 + x.later(30, 4);
         Check.due("the law's own number fits", x.speeds(0, 0, 1) <= 60 && x.speeds(0, 0, 2) >= 60 ? 1 : 0, 1);
-        Check.due("the law is aside for the question alone", x.later(30, 0), all);
+        Check.due("the law is aside for the question alone", x.later(30, 3) * 1000 + x.later(30, 4), wrote);
         x.chance(5, 3, 0);
-        Check.due("devices stall for the question alone", x.later(30, 0), all);
+        Check.due("devices stall for the question alone", x.later(30, 3) * 1000 + x.later(30, 4), wrote);
         x.drains();
-        Check.due("writers rest for the question alone", x.later(30, 0), all);
+        Check.due("writers rest for the question alone", x.later(30, 3) * 1000 + x.later(30, 4), wrote);
         x.enough(99);
-        Check.due("the limit is another one for the question alone", x.later(30, 0), all);
+        Check.due("the limit is another one for the question alone", x.later(30, 3) * 1000 + x.later(30, 4), wrote);
         x.bears(0, 99);
-        Check.due("another one is told for the question alone", x.later(30, 0), all);
+        Check.due("another one is told for the question alone", x.later(30, 3) * 1000 + x.later(30, 4), wrote);
     }
 
     private static void busiest() {
