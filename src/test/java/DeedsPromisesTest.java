@@ -161,6 +161,22 @@ public final class DeedsPromisesTest {
         }
     }
 
+    static void term_whose_turn_it_is_is_undone_too() {
+        WriterPace x = Texts.told("host limit 99 background 0 age 99 pause 9 window 99 chunk 1 queue 1;"
+                + "device speed 100;file on 0;file on 0;file on 0;"
+                + "writer to 0 wants 5;writer to 1 wants 5;writer to 2 wants 5;"
+                + "wants : if time = 1 then told else 0 end;");
+        x.ticks(1);
+        for (int i = 0; i < 6; i++) {
+            Check.due("next", x.next(0), i % 3);
+            x.ticks(1);
+        }
+        for (int i = 5; i >= 0; i--) {
+            Check.due("undo(1)", x.undo(1), i + 1);
+            Check.due("next", x.next(0), i % 3);
+        }
+    }
+
     static void term_calls_that_did_none_cannot_be_undone() {
         WriterPace x = Texts.told(TWO);
         x.ticks(1);

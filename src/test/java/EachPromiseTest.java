@@ -7,7 +7,8 @@ import java.util.regex.Pattern;
 
 /** Each promise of the document has a test that is named after it, and so have its terms. */
 public final class EachPromiseTest {
-    private static final Pattern NAMED = Pattern.compile("\\n    static void (promise([0-9]+)|term)_[a-zA-Z0-9_]+\\(\\)");
+    private static final Pattern NAMED =
+            Pattern.compile("\\n    static void (promise([0-9]+)|term)_[a-zA-Z0-9_]+\\(\\)");
 
     public static void main(String[] args) throws IOException {
         int[] tests = new int[39];

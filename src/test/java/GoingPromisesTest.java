@@ -52,6 +52,59 @@ public final class GoingPromisesTest {
         Check.due("later(0, 5)", x.later(0, 5), -2);
     }
 
+    static void promise18_pages_before_do_not_count() {
+        WriterPace x = once(100);
+        x.ticks(5);
+        Check.due("devices wrote before", x.count(7), 5);
+        Check.due("writers wrote before", x.count(6), 99);
+        Check.due("devices wrote", x.later(10, 3), 10);
+        Check.due("writers wrote", x.later(10, 4), 0);
+    }
+
+    /** All that there may be of each: every call goes through all of it, as the plain model does. */
+    static void term_a_full_host_goes_as_the_model_does() {
+        String text = "host limit 200 background 5 age 7 pause 9 window 5 chunk 3 queue 6;"
+                + "device speed 120;device speed 70;device speed 300;device speed 45;"
+                + "file on 0;file on 1;file on 2;file on 3;".repeat(3)
+                + "writer to 11 wants 3;writer to 0 wants 2;writer to 10 wants 4;writer to 5 wants 1;"
+                + "writer to 3 wants 2;writer to 7 wants 3;wants : told + time * 0;speed : told - time + 10;";
+        WriterPace x = new WriterPace();
+        Model m = new Model();
+        byte[] b = Texts.bytes(text);
+        for (int at = 0; at < b.length; at += 20) {
+            int[] v = Texts.bytesAt(b, at);
+            x.feed(v[0], v[1], v[2], v[3], v[4]);
+            m.feed(v[0], v[1], v[2], v[3], v[4]);
+        }
+        Check.due("host", x.host(b.length), m.host(b.length));
+        for (int round = 0; round < 2; round++) {
+            Check.due("ticks", x.ticks(33), m.ticks(33));
+            Check.due("speed", x.speed(3, 99), m.speed(3, 99));
+            Check.due("wants", x.wants(5, 9), m.wants(5, 9));
+            Check.due("oldest", x.oldest(150), m.oldest(150));
+            Check.due("drains", x.drains(), m.drains());
+            Check.due("passes", x.passes(150), m.passes(150));
+            Check.due("fair", x.fair(99, 1), m.fair(99, 1));
+            Check.due("held", x.held(300), m.held(300));
+            Check.due("enough", x.enough(60), m.enough(60));
+            Check.due("bears", x.bears(5, 60), m.bears(5, 60));
+            Check.due("mean", x.mean(3, 0), m.mean(3, 0));
+            Check.due("chance", x.chance(120, 3, 0), m.chance(120, 3, 0));
+            for (int d = 0; d < 4; d++) {
+                Check.due("busiest", x.busiest(d), m.busiest(d));
+                Check.due("starved", x.starved(d, 200), m.starved(d, 200));
+                Check.due("written", x.written(d, 30), m.written(d, 30));
+                Check.due("next", x.next(d), m.next(d));
+            }
+            for (int what = 0; what <= 4; what++) {
+                Check.due("later", x.later(200, what), m.later(200, what));
+            }
+            for (int what = 0; what <= 2; what++) {
+                Check.due("most", x.most(200, what), m.most(200, what));
+            }
+        }
+    }
+
     // ---- passes
 
     static void promise19_k_is_0_to_999() {

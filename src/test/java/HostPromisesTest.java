@@ -183,6 +183,12 @@ public final class HostPromisesTest {
         Check.due("undone", x.count(8), 0);
         Check.due("undo(1)", x.undo(1), -3);
         Check.due("as new", Seen.all(x), Seen.all(Texts.told(Twins.HOST)));
+        WriterPace y = Texts.told("host limit 5 background 4 age 99 pause 1 window 99 chunk 1 queue 1;"
+                + "device speed 0;file on 0;writer to 0 wants 9;");
+        y.ticks(3);
+        Check.due("held", y.writer(0, 5), 3);
+        Texts.tell(y, Twins.HOST);
+        Check.due("as new, whoever was held", Seen.all(y), Seen.all(Texts.told(Twins.HOST)));
         x.restore(0);
         Check.due("images stay", x.count(3), 9);
         Check.due("trays stay", x.judge(1, 0), 2);

@@ -33,6 +33,28 @@ public final class TextBoundsTest {
         Texts.faulty(blanks(900), 2, 900);
     }
 
+    static void term_tokens_end_with_the_text() {
+        // The tape goes on behind the first n bytes, but the text doesn't.
+        String text = "host limit 12 background 3 age";
+        WriterPace x = new WriterPace();
+        int[] places = {0, 0, 0, 4, 5, 5, 5, 5, 5, 10, 11, 12, 13, 14};
+        for (int n = 1; n <= places.length; n++) {
+            for (int at = 0; at < text.length(); at += 20) {
+                int[] v = Texts.bytesAt(Texts.bytes(text), at);
+                x.feed(v[0], v[1], v[2], v[3], v[4]);
+            }
+            Check.due("host(" + n + ")", x.host(n), -32);
+            Check.due("place of host(" + n + ")", x.fault(1), places[n - 1]);
+        }
+        // A text of 900 bytes may end with any kind of token.
+        String start = H + blanks(834);
+        Texts.faulty(start + "w", 2, 899);
+        Texts.faulty(start + "7", 2, 899);
+        Texts.faulty(start + ";", 2, 899);
+        Texts.faulty(start + "#", 1, 899);
+        Texts.sound(start + "\n", 1);
+    }
+
     static void term_a_law_may_fill_the_text() {
         StringBuilder law = new StringBuilder(ONE + "wants:");
         while (law.length() + 4 <= 900) {
@@ -175,6 +197,47 @@ public final class TextBoundsTest {
     static void term_fault_2_is_found_at_each_token() {
         withOneReplaced("zzz", 2, 0);
         withOneReplaced("limits", 2, 0);
+    }
+
+    static void term_a_word_counts_in_whole() {
+        for (int i = 0; i < TOKENS.length; i++) {
+            String word = TOKENS[i];
+            String ahead = joined(i) + (i == 0 ? "" : " ");
+            for (int k = 0; k < word.length() && word.charAt(0) >= 'a' && word.charAt(0) <= 'z'; k++) {
+                String other = word.substring(0, k) + (word.charAt(k) == 'q' ? 'x' : 'q') + word.substring(k + 1);
+                Texts.faulty(ahead + other, 2, ahead.length());
+            }
+        }
+    }
+
+    /** Each token in the place of each other one: the fault and its place as in the plain model. */
+    static void term_any_token_in_the_place_of_any_other() {
+        String[] words = ("host limit background age pause window chunk queue device speed file on writer to wants "
+                + "if then else end not and or time told ; : + - * ( ) [ ] = < > 0 1 99 100 999 1000 # zz").split(" ");
+        int[] kinds = new int[5];
+        for (int i = 0; i < TOKENS.length; i++) {
+            StringBuilder behind = new StringBuilder();
+            for (int k = i + 1; k < TOKENS.length; k++) {
+                behind.append(" ").append(TOKENS[k]);
+            }
+            for (String word : words) {
+                String text = joined(i) + " " + word + behind;
+                WriterPace x = new WriterPace();
+                Model model = new Model();
+                byte[] b = Texts.bytes(text);
+                for (int at = 0; at < b.length; at += 20) {
+                    int[] v = Texts.bytesAt(b, at);
+                    x.feed(v[0], v[1], v[2], v[3], v[4]);
+                    model.feed(v[0], v[1], v[2], v[3], v[4]);
+                }
+                Check.due("host of <" + text + ">", x.host(b.length), model.host(b.length));
+                Check.due("place of <" + text + ">", x.fault(1), model.fault(1));
+                kinds[x.fault(0)]++;
+            }
+        }
+        for (int kind = 0; kind <= 3; kind++) {
+            Check.holds("some texts of kind " + kind + ": " + kinds[kind], kinds[kind] > 20);
+        }
     }
 
     static void term_host_must_be_told_first_and_once() {
@@ -373,6 +436,40 @@ public final class TextBoundsTest {
         Check.due("count(0) stays", x.count(0), 4);
         Check.due("none", Texts.tell(x, H), 1);
         Check.due("count(0)", x.count(0), 0);
+    }
+
+    /** Three ticks of a host: what its device and its writer wrote, and its credit. */
+    private static void threeTicks(WriterPace x, String text, int device, int credit, int writer) {
+        Check.holds("sound: " + text, Texts.tell(x, text) > 0);
+        Check.due("device of " + text, x.ticks(3), device);
+        Check.due("credit of " + text, x.device(0, 3), credit);
+        Check.due("writer of " + text, x.writer(0, 4), writer);
+    }
+
+    static void term_laws_end_with_their_host() {
+        WriterPace x = new WriterPace();
+        String fast = ONE.replace("speed 0", "speed 150");
+        threeTicks(x, fast + "wants : 1 + 2 + 3 + 4 + 5 + 6;speed : 9 * 9 + 9 + 9 + 1;", 1, 0, 63);
+        threeTicks(x, fast + "wants : 9;", 1, 50, 27);
+        threeTicks(x, fast + "speed : 20;wants : 8 + 0;", 0, 20, 24);
+        threeTicks(x, fast, 1, 0, 3);
+        threeTicks(x, fast + "wants : 8 + 0;speed : 210;", 2, 10, 24);
+        threeTicks(x, fast, 1, 0, 3);
+        threeTicks(x, fast + "speed : 70;", 0, 70, 3);
+        threeTicks(x, fast + "wants : told + 4;", 1, 50, 15);
+    }
+
+    static void term_the_longest_law_may_be_told_again_and_again() {
+        StringBuilder law = new StringBuilder(ONE + "wants:");
+        while (law.length() + 4 <= 900) {
+            law.append("0+");
+        }
+        WriterPace x = new WriterPace();
+        for (int i = 1; i <= 8; i++) {
+            Check.due("host", Texts.tell(x, law + "" + i + ";"), 5);
+            x.ticks(1);
+            Check.due("the last atom counts", x.writer(0, 4), i);
+        }
     }
 
     static void term_later_laws_strike() {

@@ -202,6 +202,20 @@ public final class TickBoundsTest {
         Check.due("but the count is halved", x.device(0, 5), 1);
     }
 
+    static void term_b_one_page_written_or_one_in_flight_is_enough() {
+        String head = head("limit 999 background 0 age 99", "pause 9 window 1 chunk 99 queue 99")
+                + "device speed 80;file on 0;writer to 0 wants 1;wants : if time = 1 then told else 0 end;";
+        WriterPace x = Texts.told(head + "speed : 160;");
+        x.ticks(3);
+        Check.due("none in flight", x.device(0, 1), 0);
+        // One page is 100 in a hundred: 80 and 20 by 8.
+        Check.due("one written", x.device(0, 4), 82500);
+        WriterPace y = Texts.told(head + "speed : 0;");
+        y.ticks(3);
+        Check.due("one in flight", y.device(0, 1), 1);
+        Check.due("none written: 80 less an eighth", y.device(0, 4), 70000);
+    }
+
     static void term_b_the_window_divides_what_was_written_in_it() {
         WriterPace x = Texts.told(head("limit 999 background 0 age 99", "pause 9 window 4 chunk 99 queue 99")
                 + "device speed 50;file on 0;writer to 0 wants 99;speed : 300;");
@@ -607,6 +621,22 @@ public final class TickBoundsTest {
         Check.due("q 2", x.pause(0, 6), 24);
     }
 
+    static void term_d_what_is_in_flight_is_on_the_device_too() {
+        // Limit 10: 6 pages on it, of which at tick 2 four are in flight and two are dirty.
+        WriterPace x = Texts.told(head("limit 10 background 0 age 99", "pause 999 window 99 chunk 9 queue 4")
+                + "device speed 10;file on 0;writer to 0 wants 6;");
+        x.ticks(1);
+        Check.due("all are dirty", x.pause(0, 6), 61);
+        x.ticks(1);
+        Check.due("in flight", x.device(0, 1), 4);
+        Check.due("dirty", x.device(0, 2), 2);
+        Check.due("as many are on it", x.pause(0, 6), 61);
+        WriterPace y = Texts.told(head("limit 10 background 0 age 99", "pause 999 window 99 chunk 9 queue 9")
+                + "device speed 10;file on 0;writer to 0 wants 6;");
+        y.ticks(2);
+        Check.due("all are in flight", y.pause(0, 6), 61);
+    }
+
     static void term_d_the_estimate_is_divided_by_how_many_writers_are_there() {
         String head = head("limit 10 background 0 age 99", "pause 999 window 99 chunk 1 queue 1")
                 + "device speed 60;file on 0;file on 0;writer to 0 wants 6;";
@@ -757,6 +787,13 @@ public final class TickBoundsTest {
     }
 
     static void term_or_and_not_bind_as_the_text_tells() {
+        tells("if not 1 = 1 then 1 else 0 end", 0);
+        tells("if not 1 = 2 then 1 else 0 end", 1);
+        tells("if not not 1 = 1 then 1 else 0 end", 1);
+        tells("if not not 1 = 2 then 1 else 0 end", 0);
+        tells("if not 1 = 1 or 1 = 2 then 1 else 0 end", 0);
+        tells("if 1 = 2 or not 1 = 1 then 1 else 0 end", 0);
+        tells("if 1 = 2 or not 1 = 2 then 1 else 0 end", 1);
         for (int bits = 0; bits < 8; bits++) {
             boolean a = (bits & 4) != 0;
             boolean b = (bits & 2) != 0;
@@ -769,6 +806,52 @@ public final class TickBoundsTest {
             tells("if not " + p + " and " + q + " or " + r + " then 1 else 0 end", !a && b || c ? 1 : 0);
             tells("if not [ " + p + " or " + q + " ] and " + r + " then 1 else 0 end", !(a || b) && c ? 1 : 0);
             tells("if [ " + p + " or " + q + " ] and not " + r + " then 1 else 0 end", (a || b) && !c ? 1 : 0);
+        }
+    }
+
+    static void term_what_stands_open_around_a_part_does_not_matter() {
+        tells("1 + 2 * if 1 = 1 and not 1 = 2 then 3 else 4 end", 7);
+        tells("1 + 2 * if 1 = 1 and not 1 = 1 then 3 else 4 end", 9);
+        tells("1 + 2 * ( 3 + if 1 = 2 or 1 < 2 and not [ 2 < 1 or 2 = 1 ] then 5 * 2 else 1 end )", 27);
+        tells("9 - if 1 + 1 * 2 = 3 then 1 + 1 * 2 else 7 end - 1", 5);
+        tells("if if 1 = 1 then 2 else 3 end = 2 then if 1 = 2 then 4 else 5 end else 6 end", 5);
+        // Six levels, each with a sum, a product, a comparison, an and and an or open around it.
+        String open = "1 + 1 * if 1 = 2 or 1 = 1 and 1 < 1 + 1 * ";
+        String deep = open.repeat(6) + "1" + " then 2 else 3 end".repeat(6);
+        // The innermost one: 1 is not above 1 + 1 * 1 = 2, so that each tells 2, and each sum 3.
+        tells(deep, 3);
+    }
+
+    static void term_laws_of_four_devices_and_six_writers_are_each_their_own() {
+        StringBuilder text = new StringBuilder(head("limit 999 background 0 age 99",
+                "pause 9 window 999 chunk 99 queue 99"));
+        for (int d = 0; d < 4; d++) {
+            text.append("device speed 5;file on ").append(d).append(";");
+        }
+        for (int w = 0; w < 6; w++) {
+            text.append("writer to ").append(w % 4).append(" wants 5;");
+        }
+        WriterPace x = Texts.told(text + "wants : told + writer * 5 + device;speed : told * 10 + device;");
+        x.ticks(2);
+        for (int w = 0; w < 6; w++) {
+            Check.due("writer " + w, x.writer(w, 4), 2 * (5 + w * 5 + w % 4));
+        }
+        x.ticks(1);
+        for (int d = 0; d < 4; d++) {
+            Check.due("credit of " + d, x.device(d, 3), 50 + d);
+        }
+        for (int d = 3; d >= 0; d--) {
+            x.speed(d, 1);
+        }
+        for (int w = 5; w >= 0; w--) {
+            x.wants(w, 0);
+        }
+        x.ticks(1);
+        for (int d = 0; d < 4; d++) {
+            Check.due("credit of " + d, x.device(d, 3), 50 + d + 10 + d);
+        }
+        for (int w = 0; w < 6; w++) {
+            Check.due("writer " + w, x.writer(w, 4), 3 * (5 + w * 5 + w % 4) + w * 5 + w % 4);
         }
     }
 

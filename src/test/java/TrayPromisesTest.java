@@ -287,6 +287,26 @@ public final class TrayPromisesTest {
         Check.due("by the same laws", Seen.all(x), Seen.all(y));
     }
 
+    static void promise37_laws_of_one_host_are_not_those_of_another() {
+        String head = "host limit 999 background 0 age 99 pause 9 window 99 chunk 99 queue 99;"
+                + "device speed 100;file on 0;writer to 0 wants 7;";
+        WriterPace x = Texts.told(head + "wants : told + 1;speed : told * 2;");
+        x.image(0);
+        Texts.tell(x, head + "wants : told + 2;speed : told * 3;");
+        x.image(1);
+        Texts.tell(x, head);
+        for (int round = 0; round < 2; round++) {
+            x.later(110, 0);
+            x.restore(0);
+            Check.due("speed of image 0", x.ticks(3), 2);
+            Check.due("wants of image 0", x.writer(0, 4), 24);
+            x.later(110, 0);
+            x.restore(1);
+            Check.due("speed of image 1", x.ticks(3), 3);
+            Check.due("wants of image 1", x.writer(0, 4), 27);
+        }
+    }
+
     // ---- count
 
     static void promise38_all_eleven_and_none_for_others() {

@@ -84,7 +84,7 @@ public final class TraysAndImagesTest {
         long later = Seen.all(x);
         Texts.tell(x, OTHER);
         x.ticks(25);
-        Check.holds("another host", Seen.all(x) != seen);
+        Check.due("another host", x.set(0), 50);
         x.feed(1, 2, 3, 4, 5);
         Check.due("restore(0)", x.restore(0), 0);
         Check.due("as it was", Seen.all(x), seen);

@@ -102,6 +102,8 @@ public final class WrotePromisesTest {
                     + " then 200 else 50 end;");
             Check.due("the fastest span " + span, x.busiest(0), span < 8 ? span : 0);
         }
+        WriterPace one = burst("speed : if time = 25 then 100 else 0 end;");
+        Check.due("one page alone", one.busiest(0), 2);
         WriterPace y = burst("speed : if time > 32 and time < 53 then 150 else 50 end;");
         Check.due("two alike", y.busiest(0), 3);
         Check.due("busiest(2)", y.busiest(2), -2);

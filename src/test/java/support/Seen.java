@@ -13,18 +13,21 @@ final class Seen {
         for (int what = 0; what <= 7; what++) {
             sum = 31 * sum + x.set(what);
         }
-        for (int d = 0; d < x.count(0); d++) {
+        int devices = x.count(0);
+        int files = x.count(1);
+        int writers = x.count(2);
+        for (int d = 0; d < devices; d++) {
             for (int what = 0; what <= 8; what++) {
                 sum = 31 * sum + x.device(d, what);
             }
             sum = 31 * sum + x.next(d);
         }
-        for (int f = 0; f < x.count(1); f++) {
+        for (int f = 0; f < files; f++) {
             for (int what = 0; what <= 3; what++) {
                 sum = 31 * sum + x.file(f, what);
             }
         }
-        for (int w = 0; w < x.count(2); w++) {
+        for (int w = 0; w < writers; w++) {
             for (int what = 0; what <= 5; what++) {
                 sum = 31 * sum + x.writer(w, what);
             }
