@@ -380,6 +380,28 @@ public final class DeedsPromisesTest {
         Check.due("the tray stays", x.perform(0), 40);
     }
 
+    static void term_an_object_is_used_for_512_calls() {
+        WriterPace x = new WriterPace();
+        String text = "host limit 999 background 0 age 99 pause 9 window 50 chunk 99 queue 99;"
+                + "device speed 999;file on 0;writer to 0 wants 9;";
+        Check.due("six feeds and a host", Texts.tell(x, text), 4);
+        int calls = 7;
+        x.numbers(0, 0, 40);
+        for (int i = 0; i < 40; i++) {
+            x.write(0, i, 99);
+        }
+        calls += 41;
+        int ticks = 0;
+        for (; calls < 508; calls++) {
+            Check.due("forty deeds", x.perform(0), 40);
+            ticks += 40 * 99;
+        }
+        Check.due("ticks", x.count(3), ticks);
+        Check.due("pages writers wrote", x.count(6), 9L * ticks);
+        Check.due("pages devices wrote", x.count(7), 9L * ticks - 18);
+        Check.due("calls to undo", x.undo(10), 0);
+    }
+
     // ---- load
 
     private static int seed;
