@@ -457,6 +457,9 @@ public final class TextBoundsTest {
         threeTicks(x, fast, 1, 0, 3);
         threeTicks(x, fast + "speed : 70;", 0, 70, 3);
         threeTicks(x, fast + "wants : told + 4;", 1, 50, 15);
+        // A shorter law ends where the longer one had its not.
+        threeTicks(x, fast + "wants : if not 1 = 2 then 5 else 6 end;", 1, 50, 15);
+        threeTicks(x, fast + "wants : 1 + 2;", 1, 50, 9);
     }
 
     static void term_the_longest_law_may_be_told_again_and_again() {
