@@ -1018,6 +1018,7 @@ public final class WriterPace {
         private static final int SIGN = 3;
         private static final int WRONG = 4;
         private static final int DEEPEST = 6;
+        private static final int DIGITS = 3;
 
         int fault = 0;
         int place = NONE;
@@ -1345,30 +1346,25 @@ public final class WriterPace {
                 start++;
             }
             stop = start;
+            number = 0;
             if (start >= length) {
                 kind = END;
             } else if (isLetter(text[start])) {
-                kind = WORD;
                 for (int i = start; i < length && isLetter(text[i]); i++) {
                     stop = i + 1;
                 }
+                kind = WORD;
             } else if (isDigit(text[start])) {
-                advanceOverDigits();
+                for (int i = start; i < length && isDigit(text[i]); i++) {
+                    // Wraps for a long row of digits; such a row is wrong anyway.
+                    number = number * 10 + text[i] - '0';
+                    stop = i + 1;
+                }
+                kind = stop - start > DIGITS ? WRONG : NUMBER;
             } else {
-                kind = isSignByte(text[start]) ? SIGN : WRONG;
                 stop = start + 1;
+                kind = isSignByte(text[start]) ? SIGN : WRONG;
             }
-        }
-
-        private void advanceOverDigits() {
-            int value = 0;
-            for (int i = start; i < length && isDigit(text[i]); i++) {
-                // Wraps for a long row of digits; such a row is wrong anyway.
-                value = value * 10 + text[i] - '0';
-                stop = i + 1;
-            }
-            kind = stop - start > 3 ? WRONG : NUMBER;
-            number = value;
         }
 
         private static boolean isBlank(byte b) {

@@ -384,7 +384,59 @@ public final class GoingPromisesTest {
         Check.due("nobody wants any", x.enough(99), 1);
     }
 
+    /** Fast enough that only a limit that is nearly full makes a pause of the first pages. */
+    private static String fast(int limit, int window, int wants) {
+        return "host limit " + limit + " background 0 age 99 pause 4 window " + window + " chunk 9 queue 9;"
+                + "device speed 500;file on 0;writer to 0 wants " + wants + ";";
+    }
+
+    static void promise27_the_least_even_if_a_greater_one_is_not_enough() {
+        // With 6: a pause of 1 for p is 0, but five are written by tick 3, and there is room for 5.
+        // With 7: p 0.875, half 3.5, q 2 by 7, rate 125, pause 4: 1 tick, and there is room for 6.
+        // With 8: p 1, q 0.5, rate 250, pause 2: none, and at tick 2 there is room for 2.
+        WriterPace x = Texts.told(fast(100, 99, 6));
+        Check.due("the least", x.enough(3), 7);
+        int[] held = {1, 0, 1};
+        for (int i = 0; i < held.length; i++) {
+            Check.due("limit " + (6 + i), Texts.told(fast(6 + i, 99, 6)).held(3), held[i]);
+        }
+        Check.due("as told nobody is held either", x.held(3), 0);
+    }
+
+    static void promise27_free_share_and_set_follow_from_the_tried_limit() {
+        // FREE as told, 50, or a share as told, 100: no pause, and 12 would be the least.
+        Check.due("the share by how many devices", Texts.told(fast(100, 99, 6)).enough(3), 7);
+        Check.due("another limit", Texts.told(fast(999, 99, 6)).enough(3), 7);
+        // Five pages of 500 in a window of 1: the estimate stays, and the count is 5, then 2.
+        WriterPace x = Texts.told(fast(100, 1, 5));
+        x.ticks(1);
+        x.wants(0, 0);
+        x.ticks(2);
+        Check.due("all is written", x.count(4), 0);
+        Check.due("count", x.device(0, 5), 5);
+        Check.due("estimate", x.device(0, 4), 500000);
+        x.wants(0, 6);
+        Check.due("the share by counts", x.enough(3), 7);
+        // With 6: set 4.5, p 26 by 27, q 1 by 3, pause 3: no tick, and at tick 2 there is room for 1.
+        // By a set point far above, p were 0, and the pause 4: one tick.
+        Check.due("the set point", Texts.told(fast(100, 99, 5).replace("500", "400")).enough(3), 10);
+    }
+
     // ---- bears
+
+    static void promise28_the_greatest_even_if_a_lesser_one_is_too_many() {
+        String text = "host limit 10 background 0 age 99 pause 9 window 99 chunk 9 queue 9;"
+                + "device speed 999;file on 0;writer to 0 wants 1;";
+        // With 10: p is 0, pause 9, LAST 2. With 9: rate 156.6, pause 5, LAST 1. With 8, 7 and 6 the
+        // pauses are 2, 1 and 0, LAST is 0, and at tick 2 there is too little room. With 5 there is.
+        Check.due("the greatest", Texts.told(text).bears(0, 2), 10);
+        int[] held = {0, 1, 1, 1, 0, 0, 1};
+        for (int i = 0; i < held.length; i++) {
+            WriterPace x = Texts.told(text);
+            x.wants(0, 5 + i);
+            Check.holds("with " + (5 + i), (x.held(2) > 0) == (held[i] == 1));
+        }
+    }
 
     static void promise28_the_greatest_of_0_to_99() {
         WriterPace x = Texts.told(HEAP.replace("background 998", "background 0"));

@@ -55,6 +55,33 @@ public final class WrotePromisesTest {
         Check.due("nine numbers", x.speeds(1, 0, 0), -4);
     }
 
+    /** Two pages at a time go in flight, and the credit that is left behind them is lost. */
+    private static WriterPace inPairs() {
+        WriterPace x = Texts.told("host limit 20 background 1 age 3 pause 1 window 10 chunk 2 queue 2;"
+                + "device speed 0;file on 0;writer to 0 wants 1;");
+        x.ticks(2);
+        return x;
+    }
+
+    static void promise29_speeds_with_others_between_them() {
+        int many = 0;
+        int least = -1;
+        int greatest = -1;
+        for (int v = 0; v <= 999; v++) {
+            WriterPace y = inPairs();
+            y.speed(0, v);
+            if (y.later(10, 3) == 9) {
+                many++;
+                least = least < 0 ? v : least;
+                greatest = v;
+            }
+        }
+        Check.due("told one by one: how many", many, 90);
+        Check.due("told one by one: the least", least, 100);
+        Check.due("told one by one: the greatest", greatest, 199);
+        fit(inPairs(), 0, 90, 100, 199, 9);
+    }
+
     static void promise29_a_number_of_64_bits_is_not_cut() {
         WriterPace x = burst("");
         fit(x, 0, 0, -1, -1, (1L << 32) + 5);
