@@ -1363,7 +1363,7 @@ public final class WriterPace {
                 kind = stop - start > DIGITS ? WRONG : NUMBER;
             } else {
                 stop = start + 1;
-                kind = isSignByte(text[start]) ? SIGN : WRONG;
+                kind = text[start] > 0 && SIGNS.indexOf((char) text[start]) >= 0 ? SIGN : WRONG;
             }
         }
 
@@ -1377,10 +1377,6 @@ public final class WriterPace {
 
         private static boolean isDigit(byte b) {
             return b >= '0' && b <= '9';
-        }
-
-        private static boolean isSignByte(byte b) {
-            return b > 0 && SIGNS.indexOf((char) b) >= 0;
         }
     }
 
